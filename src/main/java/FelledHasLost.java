@@ -47,6 +47,7 @@ public final class FelledHasLost {
     private final Tower bare = new Tower();
     private final Tower trial = new Tower();
     private final int[] hands = new int[MOST_PLAYERS];
+    private final int[] shares = new int[MOST_PLAYERS];
     private int playing = 2;
 
     public FelledHasLost() {
@@ -136,7 +137,7 @@ public final class FelledHasLost {
             return false;
         }
         int thickness = t.take(b);
-        boolean holds = balance.holds(t);
+        boolean holds = balance.weigh(t);
         t.put(b, thickness);
         return holds;
     }
@@ -187,14 +188,17 @@ public final class FelledHasLost {
         return n < 0 ? CANNOT : copySheet(kind, n, f, step);
     }
 
+    /** The sheet has an entry for each block that is there, and none for a gap. */
     private int copySheet(int kind, int n, int f, int step) {
         Tower t = now.tower;
         int sum = 0;
+        int i = 0;
         for (int b = 0; b < MOST_BLOCKS; b++) {
             if (t.has(b)) {
-                int thickness = b < n ? Tower.fitThickness(entry(kind, f + b * step)) : 0;
+                int thickness = i < n ? Tower.fitThickness(entry(kind, f + i * step)) : 0;
                 t.put(b, thickness);
                 sum += thickness;
+                i++;
             }
         }
         return sum;
@@ -237,7 +241,7 @@ public final class FelledHasLost {
             r = r * 1103515245 + 12345;
             balance.tilt[which] = (r >>> 16) % (2 * MOST_TILT + 1) - MOST_TILT;
         }
-        return balance.holds(now.tower) ? 1 : 0;
+        return balance.weigh(now.tower) ? 1 : 0;
     }
 
     // ---- what bears, what stands
@@ -379,11 +383,11 @@ public final class FelledHasLost {
         } else {
             int spot = t.landing(m);
             int thickness = t.take(b);
-            if (!balance.holds(t)) {
+            if (!balance.weigh(t)) {
                 now.fell(FELL_DRAWN, balance.broken, balance.brokenMargin);
             } else {
                 t.put(spot, thickness);
-                if (!balance.holds(t)) {
+                if (!balance.weigh(t)) {
                     now.fell(FELL_LAID, balance.broken, balance.brokenMargin);
                 }
             }
@@ -541,8 +545,8 @@ public final class FelledHasLost {
         if (n < 0 || n > MOST_TURNS) {
             return NONE;
         }
-        int[] share = new int[MOST_PLAYERS];
         int left = WHOLE;
+        Arrays.fill(shares, 0);
         trial.copyFrom(movable());
         for (int i = 0; i < n; i++) {
             int who = (now.mover + i) % playing;
@@ -552,20 +556,20 @@ public final class FelledHasLost {
             }
             int lost = left * chooser.chosenOdds / CERTAIN;
             if (who >= 0 && who < MOST_PLAYERS) {
-                share[who] += lost;
+                shares[who] += lost;
             }
             left -= lost;
             trial.carry(chooser.chosen / 10, trial.landing(chooser.chosen));
         }
-        return tellShares(share, left);
+        return tellShares(left);
     }
 
-    private int tellShares(int[] share, int left) {
+    private int tellShares(int left) {
         int worst = 0;
         numbers.clear();
         for (int who = 0; who < playing && who < MOST_PLAYERS; who++) {
-            numbers.add(share[who]);
-            if (share[who] > share[worst]) {
+            numbers.add(shares[who]);
+            if (shares[who] > shares[worst]) {
                 worst = who;
             }
         }
@@ -889,12 +893,14 @@ public final class FelledHasLost {
 
         /** Those that bear of three (bits of places); GAP is thinner than any block, so it bears in no layer with one. */
         static int bearers(int left, int middle, int right) {
-            int top = Math.max(left, Math.max(middle, right));
+            int side = left > right ? left : right;
+            int top = middle > side ? middle : side;
             if (top == GAP) {
                 return 0;
             }
             int bits = (left == top ? 1 : 0) | (middle == top ? 2 : 0) | (right == top ? 4 : 0);
-            int next = Math.max(middle, bits == 1 ? right : left);
+            int otherSide = bits == 1 ? right : left;
+            int next = middle > otherSide ? middle : otherSide;
             if (bits != 1 && bits != 4 || next == GAP) {
                 return bits;
             }
@@ -974,13 +980,8 @@ public final class FelledHasLost {
             return GREATEST_PLACE[bits & 7];
         }
 
-        boolean holds(Tower t) {
-            weigh(t);
-            return broken == NONE;
-        }
-
-        /** From the top down, as each layer bears what the one above it bears, and that one; so the lowest is met last. */
-        void weigh(Tower t) {
+        /** Whether it stands. From the top down, as a layer bears what the one above it bears, and that one. */
+        boolean weigh(Tower t) {
             int all = 0;
             int lever = 0;
             int along = 0;
@@ -1000,14 +1001,16 @@ public final class FelledHasLost {
                 along += liesAlong ? t.moment[l] : 0;
                 across += liesAlong ? 0 : t.moment[l];
             }
+            return broken == NONE;
         }
 
         private static int marginOf(int bits, int all, int pulled) {
-            int left = 10 * all * (2 * (leastPlace(bits) - 1) - 1);
-            int right = 10 * all * (2 * (greatestPlace(bits) - 1) + 1);
+            int left = 10 * all * (2 * (LEAST_PLACE[bits & 7] - 1) - 1);
+            int right = 10 * all * (2 * (GREATEST_PLACE[bits & 7] - 1) + 1);
             return Math.min(2 * pulled - left, right - 2 * pulled);
         }
 
+        /** Layers come from the top down here, so that the lowest of equal ones is the one that stays. */
         private void note(int l, boolean highest) {
             if (margin[l] < 0) {
                 broken = l;
@@ -1152,7 +1155,7 @@ public final class FelledHasLost {
         }
     }
 
-    /** THE RULE, read once into signs behind their things, so that odds need no reading. */
+    /** THE RULE, read once into operators behind their things, so that odds need no reading. */
     private static final class Rule {
         private static final int MOST_SIGNS = 40;
         private static final int MOST_DEPTH = 4;
@@ -1161,43 +1164,65 @@ public final class FelledHasLost {
         private static final int FACT = 1000;
         private static final int OPERATOR = 2000;
         private static final int NEGATE = 3000;
+        private static final int OPEN = 4000;
         private final int[] code = new int[MOST_SIGNS];
         private final int[] draft = new int[MOST_SIGNS];
+        private final int[] waiting = new int[MOST_SIGNS];
         private final int[] stack = new int[MOST_SIGNS];
+        private final boolean[] compared = new boolean[MOST_DEPTH + 1];
         private int size;
         private int draftSize;
-        private int at;
-        private int end;
-        private int bad;
+        private int waitingSize;
+        private int depth;
+        private int digits;
+        private boolean wantsThing;
 
         Rule() {
-            code[0] = FACT + FACTS.indexOf('h');
-            code[1] = FACT + FACTS.indexOf('t');
-            code[2] = OPERATOR + '*';
-            size = 3;
+            draftNone();
+            adoptDraft();
         }
 
         /** The first sign that can't stand where it is, or NONE; the old rule stays if there is one. */
         int readFrom(Text text) {
-            at = 0;
-            end = Math.min(MOST_SIGNS, text.length);
-            bad = NONE;
-            draftSize = 0;
-            if (text.length == 0) {
-                emit(FACT + FACTS.indexOf('h'));
-                emit(FACT + FACTS.indexOf('t'));
-                emit(OPERATOR + '*');
-            } else {
-                readComparison(text, 0);
-                if (bad == NONE && (at < end || text.length > MOST_SIGNS)) {
-                    bad = at;
+            int end = Math.min(MOST_SIGNS, text.length);
+            startReading();
+            for (int i = 0; i < end; i++) {
+                if (wantsThing ? !readThing(text, i) : !readBehindThing(text, i)) {
+                    return i;
                 }
             }
-            if (bad == NONE) {
-                System.arraycopy(draft, 0, code, 0, MOST_SIGNS);
-                size = draftSize;
+            if (text.length > MOST_SIGNS) {
+                return MOST_SIGNS;
             }
-            return bad;
+            if (end > 0 && (wantsThing || depth > 0)) {
+                return end;
+            }
+            if (end == 0) {
+                draftNone();
+            }
+            releaseDownTo(0);
+            adoptDraft();
+            return NONE;
+        }
+
+        private void adoptDraft() {
+            System.arraycopy(draft, 0, code, 0, MOST_SIGNS);
+            size = draftSize;
+        }
+
+        private void startReading() {
+            draftSize = 0;
+            waitingSize = 0;
+            depth = 0;
+            digits = 0;
+            wantsThing = true;
+            compared[0] = false;
+        }
+
+        private void draftNone() {
+            emit(FACT + FACTS.indexOf('h'));
+            emit(FACT + FACTS.indexOf('t'));
+            emit(OPERATOR + '*');
         }
 
         private void emit(int thing) {
@@ -1206,79 +1231,91 @@ public final class FelledHasLost {
             }
         }
 
-        private boolean isNext(Text text, String wanted) {
-            return bad == NONE && at < end && text.isOneOf(at, wanted);
-        }
-
-        private void readComparison(Text text, int depth) {
-            readSum(text, depth);
-            if (isNext(text, "<>=")) {
-                int operator = text.signs[at++];
-                readSum(text, depth);
-                emit(OPERATOR + operator);
+        private void postpone(int operator) {
+            if (waitingSize < MOST_SIGNS) {
+                waiting[waitingSize++] = operator;
             }
         }
 
-        private void readSum(Text text, int depth) {
-            readProduct(text, depth);
-            for (int n = 0; n < MOST_SIGNS && isNext(text, "+-"); n++) {
-                int operator = text.signs[at++];
-                readProduct(text, depth);
-                emit(OPERATOR + operator);
+        private boolean readThing(Text text, int i) {
+            if (text.isOneOf(i, "-")) {
+                postpone(NEGATE);
+                return true;
             }
-        }
-
-        private void readProduct(Text text, int depth) {
-            readSigned(text, depth);
-            for (int n = 0; n < MOST_SIGNS && isNext(text, "*/"); n++) {
-                int operator = text.signs[at++];
-                readSigned(text, depth);
-                emit(OPERATOR + operator);
+            if (text.isOneOf(i, "(") && depth < MOST_DEPTH) {
+                postpone(OPEN);
+                depth++;
+                compared[depth] = false;
+                return true;
             }
-        }
-
-        private void readSigned(Text text, int depth) {
-            boolean negative = false;
-            for (int n = 0; n < MOST_SIGNS && isNext(text, "-"); n++) {
-                negative = !negative;
-                at++;
-            }
-            readThing(text, depth);
-            if (negative) {
-                emit(NEGATE);
-            }
-        }
-
-        private void readThing(Text text, int depth) {
-            if (isNext(text, "0123456789")) {
-                readNumber(text);
-            } else if (isNext(text, FACTS)) {
-                emit(FACT + FACTS.indexOf((char) text.signs[at++]));
-            } else if (depth < MOST_DEPTH && isNext(text, "(")) {
-                at++;
-                readComparison(text, depth + 1);
-                if (isNext(text, ")")) {
-                    at++;
-                } else {
-                    markBad();
-                }
+            if (text.isDigit(i)) {
+                emit(text.signs[i] - '0');
+                digits = 1;
+            } else if (text.isOneOf(i, FACTS)) {
+                emit(FACT + FACTS.indexOf((char) text.signs[i]));
+                digits = 0;
             } else {
-                markBad();
+                return false;
+            }
+            wantsThing = false;
+            return true;
+        }
+
+        private boolean readBehindThing(Text text, int i) {
+            if (text.isDigit(i) && digits > 0 && digits < MOST_DIGITS && draftSize > 0) {
+                draft[draftSize - 1] = 10 * draft[draftSize - 1] + text.signs[i] - '0';
+                digits++;
+                return true;
+            }
+            digits = 0;
+            if (text.isOneOf(i, ")") && depth > 0) {
+                releaseDownTo(0);
+                waitingSize--;
+                depth--;
+                return true;
+            }
+            return text.isOneOf(i, "<>=+-*/") && readOperator(text.signs[i]);
+        }
+
+        private boolean readOperator(int sign) {
+            int binding = bindingOf(OPERATOR + sign);
+            if (binding == 1) {
+                if (compared[depth]) {
+                    return false;
+                }
+                compared[depth] = true;
+            }
+            releaseDownTo(binding);
+            postpone(OPERATOR + sign);
+            wantsThing = true;
+            return true;
+        }
+
+        private static int bindingOf(int operator) {
+            switch (operator - OPERATOR) {
+                case '<':
+                case '>':
+                case '=':
+                    return 1;
+                case '+':
+                case '-':
+                    return 2;
+                case '*':
+                case '/':
+                    return 3;
+                default:
+                    return 4;
             }
         }
 
-        private void readNumber(Text text) {
-            int number = 0;
-            for (int n = 0; n < MOST_DIGITS && isNext(text, "0123456789"); n++) {
-                number = 10 * number + text.signs[at++] - '0';
-            }
-            emit(number);
-        }
-
-        /** The first one stays: what is read behind it is no more than unwinding. */
-        private void markBad() {
-            if (bad == NONE) {
-                bad = at;
+        /** Those that wait since the latest open bracket and bind as much or more have both their things now. */
+        private void releaseDownTo(int binding) {
+            for (int n = waitingSize - 1; n >= 0; n--) {
+                if (waiting[n] == OPEN || bindingOf(waiting[n]) < binding) {
+                    return;
+                }
+                emit(waiting[n]);
+                waitingSize = n;
             }
         }
 
@@ -1341,26 +1378,22 @@ public final class FelledHasLost {
             this.rule = rule;
         }
 
-        /** Of a move that can be; tried on the tower itself and taken back. If it is safe, balance tells of it when laid. */
+        /** Tried on the tower itself and taken back; if it is safe, balance tells of the tower with the block on top. */
         boolean isSafe(Tower t, int m) {
             int b = m / 10;
-            if (t.blocksIn(b / PLACES) < 2) {
+            if (!t.canGo(m) || t.blocksIn(b / PLACES) < 2) {
                 return false;
             }
             int spot = t.landing(m);
             int thickness = t.take(b);
-            boolean holds = balance.holds(t);
+            boolean holds = balance.weigh(t);
             if (holds) {
                 t.put(spot, thickness);
-                holds = balance.holds(t);
+                holds = balance.weigh(t);
                 t.take(spot);
             }
             t.put(b, thickness);
             return holds;
-        }
-
-        private boolean canGoSafely(Tower t, int m) {
-            return t.canGo(m) && isSafe(t, m);
         }
 
         void survey(Tower t) {
@@ -1370,13 +1403,11 @@ public final class FelledHasLost {
             first = NONE;
             last = NONE;
             for (int m = 0; m < end; m++) {
-                if (t.canGo(m)) {
-                    can++;
-                    if (isSafe(t, m)) {
-                        safe++;
-                        first = first == NONE ? m : first;
-                        last = m;
-                    }
+                can += t.canGo(m) ? 1 : 0;
+                if (isSafe(t, m)) {
+                    safe++;
+                    first = first == NONE ? m : first;
+                    last = m;
                 }
             }
         }
@@ -1406,7 +1437,7 @@ public final class FelledHasLost {
             int end = t.movesEnd();
             chosen = NONE;
             for (int m = 0; m < end; m++) {
-                if (canGoSafely(t, m)) {
+                if (isSafe(t, m)) {
                     noteFacts(t, m, hand);
                     preferLower(m, 0);
                     preferLower(m, 1);
@@ -1428,7 +1459,7 @@ public final class FelledHasLost {
             int end = t.movesEnd();
             chosen = NONE;
             for (int m = 0; m < end; m++) {
-                if (canGoSafely(t, m)) {
+                if (isSafe(t, m)) {
                     noteFacts(t, m, hand);
                     int odds = oddsNow(0);
                     int spot = t.landing(m);
@@ -1447,7 +1478,7 @@ public final class FelledHasLost {
         void findSteadiest(Tower t, int b) {
             chosen = NONE;
             for (int place = 0; place < PLACES; place++) {
-                if (canGoSafely(t, 10 * b + place) && (chosen == NONE || balance.least > left)) {
+                if (isSafe(t, 10 * b + place) && (chosen == NONE || balance.least > left)) {
                     chosen = place;
                     left = balance.least;
                 }
@@ -1459,7 +1490,7 @@ public final class FelledHasLost {
             int likeliest = NONE;
             int most = 0;
             for (int m = 0; m < end; m++) {
-                if (canGoSafely(t, m)) {
+                if (isSafe(t, m)) {
                     noteFacts(t, m, hand);
                     int chances = CERTAIN - Math.min(oddsNow(0), oddsNow(1));
                     if (n == 2) {
@@ -1538,7 +1569,7 @@ public final class FelledHasLost {
             unpack(node);
             int end = work.movesEnd();
             for (int m = 0; m < end && !more; m++) {
-                if (chooser.canGoSafely(work, m)) {
+                if (chooser.isSafe(work, m)) {
                     follow(node, m);
                 }
             }
@@ -1746,6 +1777,8 @@ public final class FelledHasLost {
         private final boolean[] tight = new boolean[MOST];
         private final int[] low = new int[MOST_BLOCKS];
         private final int[] high = new int[MOST_BLOCKS];
+        private final int[] from = new int[PLACES];
+        private final int[] to = new int[PLACES];
         private final int[] tightRows = new int[PLACES];
         private final int[] spans = new int[PLACES];
         private final int[] leastRow = new int[PLACES];
@@ -1783,25 +1816,21 @@ public final class FelledHasLost {
             return bits;
         }
 
-        private int lowAt(Tower t, int b) {
-            return t.has(b) ? low[b] : GAP;
-        }
-
-        private int highAt(Tower t, int b) {
-            return t.has(b) ? high[b] : GAP;
-        }
-
         /** Goes through all rows of a layer that is there, the least first; a gap has itself alone. */
         void sift(Tower t, int layer) {
-            int b = PLACES * layer;
+            for (int p = 0; p < PLACES; p++) {
+                int b = PLACES * layer + p;
+                from[p] = t.has(b) ? low[b] : GAP;
+                to[p] = t.has(b) ? high[b] : GAP;
+            }
             int mustBear = touched(t, layer, true);
             int mustNot = touched(t, layer, false);
             rows = 0;
             Arrays.fill(tightRows, 0);
             Arrays.fill(spans, 0);
-            for (int left = lowAt(t, b); left <= highAt(t, b); left++) {
-                for (int middle = lowAt(t, b + 1); middle <= highAt(t, b + 1); middle++) {
-                    for (int right = lowAt(t, b + 2); right <= highAt(t, b + 2); right++) {
+            for (int left = from[0]; left <= to[0]; left++) {
+                for (int middle = from[1]; middle <= to[1]; middle++) {
+                    for (int right = from[2]; right <= to[2]; right++) {
                         int bits = Tower.bearers(left, middle, right);
                         if ((bits & mustBear) == mustBear && (bits & mustNot) == 0) {
                             noteRow(left, middle, right, bits);

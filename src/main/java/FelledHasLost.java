@@ -39,8 +39,8 @@ public final class FelledHasLost {
     private final State[] kept = new State[MOST_KEPT];
     private final boolean[] isKept = new boolean[MOST_KEPT];
     private final Balance balance = new Balance();
-    private final Rule odd = new Rule();
-    private final Chooser chooser = new Chooser(balance, odd);
+    private final Rule ruling = new Rule();
+    private final Chooser chooser = new Chooser(balance, ruling);
     private final Games games = new Games(chooser);
     private final Touches touches = new Touches();
     private final MoveList told = new MoveList();
@@ -80,7 +80,7 @@ public final class FelledHasLost {
     }
 
     public int rule() {
-        int bad = odd.readFrom(text);
+        int bad = ruling.readFrom(text);
         text.clear();
         return bad == NONE ? 0 : -1 - bad;
     }

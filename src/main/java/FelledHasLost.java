@@ -70,8 +70,8 @@ public final class FelledHasLost {
     public int tower() {
         int bad = Tower.wrongSign(text);
         if (bad == NONE) {
-            now.reset();
             now.tower.readFrom(text);
+            now.begin();
             touches.clear();
             history.clear();
         }
@@ -299,8 +299,13 @@ public final class FelledHasLost {
         return now.isFelled() ? bare : now.tower;
     }
 
+    /** Who has that turn, counted on from player 0. */
+    private int inTurn(int turn) {
+        return playing > 0 && turn > 0 ? turn % playing : 0;
+    }
+
     private int handOf(int turn) {
-        int who = turn % playing;
+        int who = inTurn(turn);
         return who >= 0 && who < MOST_PLAYERS ? hands[who] : 0;
     }
 
@@ -392,7 +397,7 @@ public final class FelledHasLost {
                 }
             }
         }
-        now.mover = (now.mover + 1) % playing;
+        now.mover = inTurn(now.mover + 1);
     }
 
     public int play() {
@@ -425,7 +430,7 @@ public final class FelledHasLost {
             return NONE;
         }
         history.popInto(now);
-        now.mover = now.mover % playing;
+        now.mover = inTurn(now.mover);
         return history.size;
     }
 
@@ -549,7 +554,7 @@ public final class FelledHasLost {
         Arrays.fill(shares, 0);
         trial.copyFrom(movable());
         for (int i = 0; i < n; i++) {
-            int who = (now.mover + i) % playing;
+            int who = inTurn(now.mover + i);
             chooser.findBest(trial, handOf(who));
             if (chooser.chosen == NONE) {
                 break;
@@ -686,7 +691,7 @@ public final class FelledHasLost {
             return false;
         }
         now.copyFrom(kept[i]);
-        now.mover = now.mover % playing;
+        now.mover = inTurn(now.mover);
         touches.clear();
         history.clear();
         return true;
@@ -1036,8 +1041,7 @@ public final class FelledHasLost {
             return reason != NOT_FELLED;
         }
 
-        void reset() {
-            tower.clear();
+        void begin() {
             mover = 0;
             feller = NONE;
             reason = NOT_FELLED;
@@ -1138,11 +1142,17 @@ public final class FelledHasLost {
             }
             int place = "lmr".indexOf((char) text.signs[i]);
             if (expected == TOP_PLACE) {
-                moves[size++] = 10 * reading + place;
+                note(10 * reading + place);
                 return BETWEEN;
             }
             reading = PLACES * reading + place;
             return ARROW;
+        }
+
+        private void note(int m) {
+            if (size < MOST_SIGNS) {
+                moves[size++] = m;
+            }
         }
 
         private int readDigit(Text text, int i, int expected) {
@@ -1787,7 +1797,7 @@ public final class FelledHasLost {
         private int rows;
 
         Touches() {
-            Arrays.fill(high, THICKEST);
+            clear();
         }
 
         void clear() {

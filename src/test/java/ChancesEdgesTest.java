@@ -129,6 +129,9 @@ public final class ChancesEdgesTest {
         String before = Check.state(x);
         x.chance(2);
         check.due("all behind it", Check.state(x), before);
+        FelledHasLost y = Check.on(".9./.9./.9./999/999");
+        y.chance(2);
+        check.due("the tower", Check.told(y), ".9./.9./.9./999/999");
     }
 
     private static void loser(FelledHasLost x, int n, int due, long... row) {

@@ -324,6 +324,45 @@ public final class GamesEdgesTest {
         check.due("the last of sixteen", Check.on(Check.layers(16)).free(47), -2);
     }
 
+    // What was found for another tower, or by another call, does not matter.
+    static void gamesOneBehindTheOther() {
+        String[] towers = {OF_400, "777/777/777/..7", "999/999", ".99/999", OF_401, "22./225/924/.3.", "9.9/999", "777/76./777/.77"};
+        FelledHasLost x = new FelledHasLost();
+        for (int n = 0; n < 2 * towers.length; n++) {
+            String tower = towers[n * 3 % towers.length];
+            Check.tower(x, tower);
+            for (int call = 0; call < 6; call++) {
+                int which = n < towers.length ? call : 5 - call;
+                check.due("game " + which + " of " + tower, game(x, which), game(Check.on(tower), which));
+            }
+        }
+    }
+
+    private static String game(FelledHasLost x, int which) {
+        x.why();
+        StringBuilder s = new StringBuilder();
+        switch (which) {
+            case 0: s.append(x.wins()); break;
+            case 1: s.append(x.longest()); break;
+            case 2: s.append(x.shortest()); break;
+            case 3: s.append(x.high()); break;
+            case 4: s.append(x.towers()); break;
+            default: s.append(x.free(3));
+        }
+        for (int i = 0; i < x.count(11); i++) {
+            s.append(' ').append(x.row(i));
+        }
+        return s.toString();
+    }
+
+    static void gamesManyTimes() {
+        FelledHasLost x = Check.on("777/777/777/..7");
+        for (int n = 0; n < 100; n++) {
+            check.due("longest()", x.longest(), 10);
+        }
+        check.row("longest()", x, 0, 21, 30, 51, 62, 80, 91, 112, 120, 141);
+    }
+
     // "(nothing changes)"
     static void gamesChangeNothing() {
         FelledHasLost x = Check.on("989/999/9..");

@@ -42,6 +42,12 @@ public final class MovesEdgesTest {
         moves(Check.on(Check.layers(15)), 126, 0, 412, 126);
     }
 
+    static void p18AskedTwice() {
+        FelledHasLost x = Check.on("9.9/999", 6, 0);
+        moves(x, 3, 0, 2, 6);
+        moves(x, 3, 0, 2, 6);
+    }
+
     // Promise 19: "jerked (1) or not (0)"
     static void p19JerkedOrNot() {
         FelledHasLost x = Check.on("999/999");
@@ -192,6 +198,13 @@ public final class MovesEdgesTest {
         }
     }
 
+    static void p21OfHigherLayers() {
+        FelledHasLost x = Check.on(".9./.9./.9./999/999");
+        check.due("leave()", x.leave(), 100);
+        check.row("leave()", x, 0, 1);
+        check.due("the tower", Check.told(x), ".9./.9./.9./999/999");
+    }
+
     static void p21NothingChanges() {
         FelledHasLost x = Check.on("989/999/898");
         x.leave();
@@ -323,6 +336,14 @@ public final class MovesEdgesTest {
         FelledHasLost x = Check.on("999/999");
         play(x, "", 0, 0, 0);
         check.due("to be undone", x.count(9), 0);
+    }
+
+    static void p24AnEmptyTextBehindAnother() {
+        FelledHasLost x = Check.on("999/999/999");
+        play(x, "0l>l;0r>m", 2, 0, 0);
+        play(x, "", 0, 0, 0);
+        play(x, "1m>r", 1, 0, 0);
+        check.due("the tower", Check.told(x), ".9./9.9/999/999");
     }
 
     // "a LAYER (1 or 2 digits)"

@@ -356,6 +356,13 @@ public final class TermsEdgesTest {
         check.due("a closing one", Check.rule(x, "7)"), -2);
     }
 
+    static void ruleMinusSignsOfAnEarlierTextDoNotMatter() {
+        FelledHasLost x = Check.on("999/999");
+        check.due("a refused one", Check.rule(x, "-x"), -2);
+        check.due("one behind it", Check.rule(x, "7"), 0);
+        check.due("its odds", x.odds(0, 0), 7);
+    }
+
     static void ruleDigitsOfAnEarlierTextDoNotMatter() {
         FelledHasLost x = Check.on("999/999");
         check.due("a number", Check.rule(x, "12"), 0);
@@ -462,6 +469,8 @@ public final class TermsEdgesTest {
         FelledHasLost x = Check.on("999/111");
         Check.rule(x, "m");
         check.due("990 by 100", x.odds(0, 0), 9);
+        Check.tower(x, "999/000");
+        check.due("900 by 100", x.odds(0, 0), 9);
         FelledHasLost y = Check.on("099/.0./9..");
         Check.rule(y, "m+5");
         check.due("-90 by 100", y.odds(11, 0), 5);
@@ -490,6 +499,7 @@ public final class TermsEdgesTest {
     static void ruleOfTheLeastIntByMinusOneWrapsAround() {
         odds("(256*256*256*128/-1<0)*7", 7);
         odds("(-(256*256*256*128)<0)*7", 7);
+        odds("(-(256*256*256*128)/2<0)*7", 7);
     }
 
     // "put to 0 .. 100: the ODDS of a fall, in hundredths"

@@ -233,6 +233,23 @@ public final class GamesEdgesTest {
         check.row("longest()", x, 0, 21);
     }
 
+    /** Towers whose keys meet at both ends of the table that finds them again, so that the step from its last slot to its first is taken. */
+    static void p31EachOnceThoughTheirKeysMeet() {
+        FelledHasLost x = Check.on(".05/98./.92/021");
+        check.due("towers()", x.towers(), 124);
+        check.row("towers()", x, 54);
+        check.due("longest()", x.longest(), 5);
+        check.row("longest()", x, 20, 31, 82, 90, 111);
+        FelledHasLost y = Check.on("609/08./057");
+        check.due("towers()", y.towers(), 130);
+        check.row("towers()", y, 57);
+        check.due("shortest()", y.shortest(), 2);
+        check.row("shortest()", y, 10, 31);
+        FelledHasLost z = Check.on("111/20./784");
+        check.due("towers()", z.towers(), 82);
+        check.row("towers()", z, 33);
+    }
+
     // "-3."
     static void p31TooMany() {
         FelledHasLost x = Check.on(OF_401);
